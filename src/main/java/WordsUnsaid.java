@@ -42,7 +42,7 @@ public final class WordsUnsaid {
         memory = new Memory();
         act = new Act();
         tale = new Tale();
-        fleet = new Fleet(crossing, way);
+        fleet = new Fleet();
     }
 
     // ---- the river, the house
@@ -192,7 +192,7 @@ public final class WordsUnsaid {
         for (int k = 0; k < acts && stuck == 0; k++) {
             boolean read = act.readNext(text);
             text.meet(';');
-            if (read && perform() >= 0) {
+            if (read && (act.isCrossing() ? sail() : gossip()) >= 0) {
                 done++;
                 bursts += act.isCrossing() && crossing.said != NONE ? 1 : 0;
             } else {
@@ -233,7 +233,8 @@ public final class WordsUnsaid {
         if (!crossing.begin(person, NONE, bank)) {
             return NONE;
         }
-        int size = way.shortest(Walk.DEEPEST);
+        way.start(Walk.DEEPEST);
+        int size = way.findShortest();
         if (size == 0) {
             return -2;
         }
@@ -257,6 +258,7 @@ public final class WordsUnsaid {
         return over;
     }
 
+    /** The way back is as long, with the same one aboard: so one crossing serves both. */
     public int back(int person, int bank) {
         if (!crossing.begin(person, NONE, bank) || crossing.from >= FIRST_ISLET) {
             return NONE;
@@ -268,7 +270,12 @@ public final class WordsUnsaid {
         for (int k = 0; k < MOST_ROWS && way.next(deeper); k++) {
             deeper = way.isUnderWay();
             int room = best - way.size - (way.size < first ? 0 : 1);
-            int second = way.isOver() ? wayHome(room) : 0;
+            int second = 0;
+            if (way.isOver() && room > 0) {
+                way.leaveTo(home);
+                home.startOnLeft(Math.min(room, SEARCHED));
+                second = home.findShortest();
+            }
             if (second > 0) {
                 best = way.size + second;
                 first = way.size;
@@ -331,7 +338,16 @@ public final class WordsUnsaid {
         if (from != NEAR && from != FAR) {
             return NONE;
         }
-        fleet.findPartners(those, from);
+        fleet.clear();
+        for (int p = 0; p < MOST_PEOPLE; p++) {
+            for (int other = p; other < MOST_PEOPLE; other++) {
+                if (has(those, p) && has(those, other)) {
+                    crossing.load(1 << p | 1 << other, from, FAR - from);
+                    way.start(SEARCHED);
+                    fleet.pair(p, other, way.findShortest() > 0);
+                }
+            }
+        }
         int fewest = fleet.countBoats(those);
         if (fewest > MOST_PEOPLE) {
             return -2;
@@ -345,12 +361,14 @@ public final class WordsUnsaid {
             return NONE;
         }
         int from = crossing.from;
-        int alone = way.shortest(SEARCHED);
+        way.start(SEARCHED);
+        int alone = way.findShortest();
         int best = SEARCHED + 1;
         int with = NONE;
         for (int other = 0; other < house.people; other++) {
             if (crossing.begin(person, other, bank)) {
-                int size = way.shortest(best - 1);
+                way.start(best - 1);
+                int size = way.findShortest();
                 if (size > 0) {
                     best = size;
                     with = other;
@@ -558,6 +576,15 @@ public final class WordsUnsaid {
         return i >= 0 && i < 32 && (bits >>> i & 1) == 1;
     }
 
+    private static int firstOf(int bits) {
+        for (int i = 0; i < 32; i++) {
+            if (has(bits, i)) {
+                return i;
+            }
+        }
+        return NONE;
+    }
+
     private static int pressOf(int kind, int entry) {
         int value = kind == 0 ? (byte) entry : kind == 1 ? (short) entry : entry;
         return Math.max(0, Math.min(MOST_PRESS, value));
@@ -596,9 +623,8 @@ public final class WordsUnsaid {
         return answer;
     }
 
-    private int perform() {
+    private int gossip() {
         switch (act.kind) {
-            case 'c': return sail();
             case 's': return house.speak(act.person, act.thing);
             case 'v': return house.trade(act.person, act.other, act.thing);
             default: return house.passOn(act.person, act.other, act.thing);
@@ -620,15 +646,6 @@ public final class WordsUnsaid {
         crossing.go();
         crossing.settle();
         return crossing.crossed;
-    }
-
-    /** The way back is as long, with as many aboard: the same crossing serves both. */
-    private int wayHome(int room) {
-        if (room < 1) {
-            return 0;
-        }
-        way.leaveTo(home);
-        return home.shortestOfLeft(Math.min(room, SEARCHED));
     }
 
     private void tellBothWays(int second) {
@@ -1031,7 +1048,7 @@ public final class WordsUnsaid {
             if (those <= 0 || those >= 1 << people) {
                 return NONE;
             }
-            int where = at(place, Integer.numberOfTrailingZeros(those));
+            int where = at(place, firstOf(those));
             return (those & ~peopleAt(where)) == 0 ? where : NONE;
         }
 
@@ -1043,8 +1060,16 @@ public final class WordsUnsaid {
             return set;
         }
 
+        private boolean isUnsaidOf(int those, int thing) {
+            return hasThing(thing) && has(those, at(whose, thing)) && at(said, thing) == 0;
+        }
+
         private int unsaidOf(int those) {
-            return thingsOf(those) & ~saidThings();
+            int set = 0;
+            for (int thing = 0; thing < things; thing++) {
+                set |= isUnsaidOf(those, thing) ? 1 << thing : 0;
+            }
+            return set;
         }
 
         private int saidThings() {
@@ -1068,14 +1093,6 @@ public final class WordsUnsaid {
             int set = 0;
             for (int thing = 0; thing < things; thing++) {
                 set |= (at(knows, thing) & there) != 0 ? 1 << thing : 0;
-            }
-            return set;
-        }
-
-        private int usableBy(int those) {
-            int set = unsaidOf(those);
-            for (int thing = 0; thing < things; thing++) {
-                set &= at(left, thing) > 0 ? ~0 : ~(1 << thing);
             }
             return set;
         }
@@ -1486,7 +1503,7 @@ public final class WordsUnsaid {
         }
 
         private boolean take(int thing) {
-            if (size >= MOST_IN_ROW || !has(house.usableBy(aboard), thing)) {
+            if (size >= MOST_IN_ROW || !house.isUnsaidOf(aboard, thing) || at(house.left, thing) == 0) {
                 return false;
             }
             for (int k = 0; k < size; k++) {
@@ -1578,6 +1595,7 @@ public final class WordsUnsaid {
         private int size;
         private int most;
         private int usable;
+        private int largest;
 
         private Walk(House house, Crossing crossing) {
             this.house = house;
@@ -1601,9 +1619,12 @@ public final class WordsUnsaid {
         private void startOnLeft(int limit) {
             most = Math.min(limit, DEEPEST);
             size = 0;
-            usable = house.unsaidOf(crossing.aboard);
+            usable = 0;
+            largest = 0;
             for (int thing = 0; thing < MOST_THINGS; thing++) {
-                usable &= at(left, thing) > 0 ? ~0 : ~(1 << thing);
+                boolean fits = house.isUnsaidOf(crossing.aboard, thing) && at(left, thing) > 0;
+                usable |= fits ? 1 << thing : 0;
+                largest = fits ? Math.max(largest, at(left, thing)) : largest;
             }
         }
 
@@ -1621,7 +1642,7 @@ public final class WordsUnsaid {
         }
 
         private boolean next(boolean deeper) {
-            int from = deeper && size < most ? 0 : drop() + 1;
+            int from = deeper && size < most && canReach() ? 0 : drop() + 1;
             for (int ups = 0; ups <= DEEPEST; ups++) {
                 int thing = size < most ? usableFrom(from) : NONE;
                 if (thing != NONE) {
@@ -1656,19 +1677,25 @@ public final class WordsUnsaid {
             boolean first = size == 0;
             int crossed = first ? 0 : at(yards, size - 1);
             int burst = first ? NONE : at(said, size - 1);
-            int has = at(left, thing);
-            if (burst == NONE && crossed < crossing.yards) {
-                int wanted = Math.min(has, crossing.yards - crossed);
-                int kept = crossing.kept(thing, has, crossed, wanted);
+            int had = at(left, thing);
+            put(words, size, had + (first ? 0 : at(words, size - 1)));
+            put(row, size, thing);
+            size++;
+            usable &= ~(1 << thing);
+            if (burst == NONE && crossed < crossing.yards && canReach()) {
+                int wanted = Math.min(had, crossing.yards - crossed);
+                int kept = crossing.kept(thing, had, crossed, wanted);
                 burst = kept < wanted ? thing : NONE;
                 crossed += kept;
             }
-            put(row, size, thing);
-            put(yards, size, crossed);
-            put(said, size, burst);
-            put(words, size, has + (first ? 0 : at(words, size - 1)));
-            size++;
-            usable &= ~(1 << thing);
+            put(yards, size - 1, crossed);
+            put(said, size - 1, burst);
+        }
+
+        /** Most rows have too few WORDS, however they go on: those are not tried yard by yard. */
+        private boolean canReach() {
+            int had = size == 0 ? 0 : at(words, size - 1);
+            return had + (most - size) * largest >= crossing.yards;
         }
 
         private int crossed() {
@@ -1690,16 +1717,6 @@ public final class WordsUnsaid {
         /** Rows that have too few WORDS don't set off: so nothing BURSTS OUT by them. */
         private boolean isBurst() {
             return saidThing() != NONE && at(words, size - 1) >= crossing.yards;
-        }
-
-        private int shortest(int limit) {
-            start(limit);
-            return findShortest();
-        }
-
-        private int shortestOfLeft(int limit) {
-            startOnLeft(limit);
-            return findShortest();
         }
 
         /** The first of the shortest rows; 0: by none. Longer ones than one that was found are left out. */
@@ -1760,43 +1777,32 @@ public final class WordsUnsaid {
 
     /** The boats of a party, each of one or two. */
     private static final class Fleet {
-        private final Crossing crossing;
-        private final Walk way;
         private final int[] partners;
         private final int[] boats;
         private final int[] with;
 
-        private Fleet(Crossing crossing, Walk way) {
-            this.crossing = crossing;
-            this.way = way;
+        private Fleet() {
             partners = new int[MOST_PEOPLE];
             boats = new int[1 << MOST_PEOPLE];
             with = new int[MOST_PEOPLE];
         }
 
-        /** For each told, with whom of those from it on it comes over (bits; itself: alone). */
-        private void findPartners(int those, int from) {
+        private void clear() {
             for (int p = 0; p < MOST_PEOPLE; p++) {
-                int found = 0;
-                for (int other = p; other < MOST_PEOPLE; other++) {
-                    if (has(those, p) && has(those, other) && comeOver(1 << p | 1 << other, from)) {
-                        found |= 1 << other;
-                    }
-                }
-                put(partners, p, found);
+                put(partners, p, 0);
             }
         }
 
-        private boolean comeOver(int two, int from) {
-            crossing.load(two, from, FAR - from);
-            return way.shortest(SEARCHED) > 0;
+        /** Only the first of two is told of the other one (or of itself: alone). */
+        private void pair(int p, int other, boolean comeOver) {
+            put(partners, p, at(partners, p) | (comeOver ? 1 << other : 0));
         }
 
         /** The fewest boats for each set of PEOPLE; more than there are PEOPLE: it can't come over. */
         private int countBoats(int those) {
             put(boats, 0, 0);
             for (int set = 1; set <= those && set < boats.length; set++) {
-                int p = Integer.numberOfTrailingZeros(set);
+                int p = firstOf(set);
                 int fewest = MOST_PEOPLE + 1;
                 for (int other = p; other < MOST_PEOPLE; other++) {
                     if (has(set, other) && has(at(partners, p), other)) {
