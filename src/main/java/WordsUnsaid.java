@@ -14,7 +14,7 @@ public final class WordsUnsaid {
     private static final int MOST_PRESS = 9;
     private static final int SEARCHED = 3;
     private static final int MOST_ROWS = 1000000;
-    private static final int CANNOT_EMBARK = -100;
+    private static final int ASKED_FIRST = -100;
     private static final int TOO_FEW_WORDS = -200;
     private static final int CERTAIN = 10000;
 
@@ -56,7 +56,7 @@ public final class WordsUnsaid {
     }
 
     public int river() {
-        int answer = house.onIslets() != 0 ? CANNOT_EMBARK : river.read(text);
+        int answer = house.onIslets() != 0 ? ASKED_FIRST : river.read(text);
         text.cut(0);
         if (answer >= 0) {
             memory.forgetAll();
@@ -592,7 +592,7 @@ public final class WordsUnsaid {
 
     /** Who and whereto are asked ahead of THE TEXT, whether the WORDS do behind it. */
     private int embark(int person, int other, int bank) {
-        int answer = crossing.begin(person, other, bank) ? readRow() : CANNOT_EMBARK;
+        int answer = crossing.begin(person, other, bank) ? readRow() : ASKED_FIRST;
         text.cut(0);
         if (answer == 0 && !crossing.hasWords()) {
             return TOO_FEW_WORDS;
@@ -633,7 +633,7 @@ public final class WordsUnsaid {
 
     private int sail() {
         if (!crossing.begin(act.person, act.other, act.bank)) {
-            return CANNOT_EMBARK;
+            return ASKED_FIRST;
         }
         for (int k = 0; k < act.size; k++) {
             if (!crossing.take(at(act.row, k))) {

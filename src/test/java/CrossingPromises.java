@@ -189,7 +189,7 @@ public final class CrossingPromises extends Checks {
             dueRow("by \"" + rules[k] + "\"", said[k] == NONE ? 1 : 0, said[k], crossed[k]);
         }
         fresh("20", "p16;p16;ta30*4>b;tb8*5>a");
-        rule("99*o");
+        rule("99*(o=1)");
         due("nobody it is ABOUT is aboard", look("q", 0, NONE, 1), 20);
         due("b is aboard", look("q", 0, 1, 1), 0);
     }
@@ -268,6 +268,7 @@ public final class CrossingPromises extends Checks {
         refused("not KNOWN is asked ahead of the place", NONE, () -> x.whisper(1, 2, 0));
         x.say(0, 0);
         house("p9");
+        refused("d does not KNOW what was SAID", NONE, () -> x.whisper(3, 0, 0));
         due("b KNOWS what was SAID", x.whisper(1, 3, 0), 1);
         due("d KNOWS it", x.thing(0, 6), 11);
         due("d passes it on", x.whisper(3, 0, 0), 0);
@@ -392,11 +393,11 @@ public final class CrossingPromises extends Checks {
         String[] texts = {"x", "c", "s", "v", "w", "ca", "ca+", "ca+a", "ca+a1:q", "ca+g", "ca+b", "ca+b2", "cg", "ca2", "ca:", "ca1",
             "ca1q", "ca1:", "ca1:a", "ca1:p", "ca1:q;", "ca1:qp", "ca1:qrstuvw", "ca1:qrstuv;", "sa", "saa", "sg", "saqr", "sap",
             "va", "vab", "vag", "vabp", "vaq", "vabqr", "wa", "wab", "wabb", "saq;", "saq;;", "saq;x", "saq;sbq;ca", "saq,sbq",
-            ";", "S", "ca+b+c1:q", "ca11:q"};
+            ";", "S", "ca+b+c1:q", "ca11:q", "ca01:q"};
         int[] at = {0, 1, 1, 1, 1, 2, 3, 3, 3, 3, 4, 4, 1, 2, 2, 3,
             3, 4, 4, 4, 6, 5, 10, 11, 2, 2, 1, 3, 2,
             2, 3, 2, 3, 2, 4, 2, 3, 3, 4, 4, 4, 10, 3,
-            0, 0, 4, 3};
+            0, 0, 4, 3, 3};
         for (int k = 0; k < texts.length; k++) {
             String text = texts[k];
             refused("day \"" + text + "\"", -1 - at[k], () -> day(text));

@@ -196,6 +196,7 @@ public final class HousePromises extends Checks {
             refused("house \"" + text + "\"", -1 - at[k], () -> house(text));
             due("the text is gone", x.count(11), 0);
         }
+        refused("one digit for the bank", -5, () -> house("p5@01"));
         due("one who is there by this text", house("p5;tc5*1>b;ta1*1>c"), 3);
         fresh("20", "p5;ta1*1;ta1*1;ta1*1;ta1*1;ta1*1;ta1*1;ta1*1;ta1*1;ta1*1");
         due("nine things", x.count(1), 9);
@@ -280,8 +281,8 @@ public final class HousePromises extends Checks {
         due("rule", rule("p+9"), 0);
         String[] texts = {"z", "+", "p+", "p+*", "p)", "()", "(", "(p", "(p+", "p p", "pp", "p2", "2p", "1000", "p<t<w", "p<t=w",
             "p=t>w", "(p<t)<w>1", "(p<t<w)", "(((((p", "((((p)))))", "p-", "-", "(-)", "*p", "p//t", "p=", "<p", "p,t", "P",
-            "p<(t<w", "1+(2<3)<4<5"};
-        int[] at = {0, 0, 2, 2, 1, 1, 1, 2, 3, 1, 1, 1, 1, 3, 3, 3, 3, 7, 4, 4, 9, 2, 1, 2, 0, 2, 2, 0, 1, 0, 6, 9};
+            "p<(t<w", "1+(2<3)<4<5", "(((p<t<w)))", "((((p<t=w))))", "((((p<t))))<1>2"};
+        int[] at = {0, 0, 2, 2, 1, 1, 1, 2, 3, 1, 1, 1, 1, 3, 3, 3, 3, 7, 4, 4, 9, 2, 1, 2, 0, 2, 2, 0, 1, 0, 6, 9, 6, 7, 13};
         for (int k = 0; k < texts.length; k++) {
             String text = texts[k];
             due("rule \"" + text + "\"", rule(text), -1 - at[k]);

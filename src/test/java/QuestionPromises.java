@@ -152,6 +152,9 @@ public final class QuestionPromises extends Checks {
         asked("r and s burst out, if they are first", 5, () -> x.rows(0, 1), 9);
         x.say(0, 1);
         asked("without r", 2, () -> x.rows(0, 1), 2);
+        fresh("2", "p9;ta2*0;ta9*0;ta9*0");
+        cross("q", 0, NONE, 1);
+        asked("nothing is LEFT of q", 4, () -> x.rows(0, 0), 0);
         fresh("20", "p9;ta9*0;ta9*0");
         asked("too few WORDS", 0, () -> x.rows(0, 1), 0);
         fresh("60", "p99;ta6*0;ta6*0;ta6*0;ta6*0;ta6*0;ta6*0");
@@ -221,6 +224,7 @@ public final class QuestionPromises extends Checks {
         fresh("20", "p9;ta4*0;ta6*0;ta5*0;ta5*0;ta1*0;ta9*0;ta10*0;ta2*0;ta3*0");
         house("ta40*0");
         asked("w; q r, s t, u v; q s u, q t u, r u y, s x y, t x y; q u x y", 10, () -> x.exact(0, 10), 64, 401);
+        asked("s, t; q u, x y: the least of both", 4, () -> x.exact(0, 5), 4, 17);
         asked("one word", 1, () -> x.exact(0, 1), 16, 16);
         asked("all of them", 1, () -> x.exact(0, 85), 1023, 1023);
         asked("400", 0, () -> x.exact(0, 400), NONE, NONE);
@@ -290,6 +294,9 @@ public final class QuestionPromises extends Checks {
         refused("none such", NONE, () -> x.party(64));
         refused("none such", NONE, () -> x.party(-1));
         refused("none such", NONE, () -> x.party(Integer.MIN_VALUE + 1));
+        fresh("20,5", "p9@1;p9@1;p9;ta19*0;tb1*0");
+        refused("19 WORDS for 20 yards", -2, () -> x.party(1));
+        asked("from the far bank by two", 1, () -> x.party(3), 1, 0);
         putAshore();
         refused("on an islet", NONE, () -> x.party(2));
         refused("on an islet, too", NONE, () -> x.party(3));
@@ -336,6 +343,8 @@ public final class QuestionPromises extends Checks {
         house("p9@0;te20*0");
         rule("0");
         asked("the fewest", 4, () -> x.pool(0, 1), 1, 3);
+        fresh("20", "p9;p9;ta5*0;ta5*0;tb5*0;tb5*0");
+        refused("not by four", -2, () -> x.pool(0, 1));
         fresh("20,5,12", "p9;p9;p9;ta40*9;tb10*0;tc15*0;ta8*0;ta8*0");
         rule("p+9*(y=6)");
         due("a and b are put ashore", cross("q", 0, 1, 1), 6);
